@@ -228,14 +228,30 @@ public final class ModelTest {
         return loses && next(3) != 0 ? next(KINDS) : kind;
     }
 
+    /** A second or third argument, in range often enough for the call to do something. */
+    private static int extent(int kind, boolean full) {
+        switch (kind) {
+            case 0: return full ? 8 : next(10);
+            case 1:
+            case 3: return full && next(2) == 0 ? 7 * next(2) : next(9);
+            case 7: return full ? 0 : argument();
+            case 8: return full ? 8 : argument();
+            case 10:
+            case 12: return number();
+            default: return argument();
+        }
+    }
+
     private static int run(int run) {
         ImageVault v = new ImageVault();
         Model model = new Model();
+        // With all pictures as large as can be, a step too far hits the neighbour.
+        boolean full = run % 2 == 0;
         for (int call = 0; call < CALLS; call++) {
             int kind = call < 4 ? 0 : call >= CALLS - 128 ? 3 : kind();
             int a = kind == 3 ? next(4) : number();
-            int b = kind == 0 ? next(10) : kind == 1 || kind == 3 ? next(9) : argument();
-            int c = kind == 0 ? next(10) : kind == 1 || kind == 3 ? next(9) : argument();
+            int b = extent(kind, full);
+            int c = extent(kind, full);
             int d = next(4) == 0 ? argument() : next(1 << 16);
             int got = answer(v, kind, a, b, c, d);
             int want = model.answer(kind, a, b, c, d);

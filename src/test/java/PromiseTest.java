@@ -237,6 +237,9 @@ public final class PromiseTest {
         due("even width", look(v, 1), "4x2 4 3 2 1 8 7 6 5");
         due("mirror(2)", v.mirror(2), 1);
         due("width 1", look(v, 2), "1x3 1 2 3");
+        count(v, 2, 2, 3);
+        due("mirror(2)", v.mirror(2), 2);
+        due("higher than wide", look(v, 2), "2x3 2 1 4 3 6 5");
         for (int image : OUTSIDE) {
             due("mirror(" + image + ")", v.mirror(image), R);
         }
@@ -362,6 +365,7 @@ public final class PromiseTest {
     private static void convert() {
         for (int format = 0; format < 4; format++) {
             ImageVault v = mixed();
+            v.level(0, 0, 0);
             due("convert to an absent file", v.convert(0, 3, format), 6);
             due("file 3", lookFile(v, 3), "1 " + format + " 3 2");
             due("file 0", lookFile(v, 0), "1 2 3 2");
@@ -369,8 +373,9 @@ public final class PromiseTest {
             due("file 1", lookFile(v, 1), "1 " + format + " 3 2");
             due("convert to itself", v.convert(0, 0, format), 6);
             due("file 0", lookFile(v, 0), "1 " + format + " 3 2");
-            v.level(0, 0, 0);
-            for (int file : new int[] {0, 1, 3}) {
+            due("convert what was converted", v.convert(3, 2, 3 - format), 6);
+            due("file 2", lookFile(v, 2), "1 " + (3 - format) + " 3 2");
+            for (int file = 0; file < 4; file++) {
                 v.load(file, 1);
                 due("what file " + file + " holds", look(v, 1), "3x2 1 2 3 4 5 6");
             }
@@ -428,9 +433,9 @@ public final class PromiseTest {
 
     private static void duplicate() {
         ImageVault v = mixed();
+        v.level(0, 0, 0);
         due("intact to absent", v.duplicate(0, 2), 1);
         due("file 2", lookFile(v, 2), "1 2 3 2");
-        v.level(0, 0, 0);
         v.load(2, 1);
         due("what file 2 holds", look(v, 1), "3x2 1 2 3 4 5 6");
         due("damaged to absent", v.duplicate(1, 3), 1);
