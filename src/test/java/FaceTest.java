@@ -60,7 +60,8 @@ public final class FaceTest {
                 due(field + " is final", Modifier.isFinal(field.getModifiers()), true);
             }
             if (isSeen(field)) {
-                due(field + " public static final", field.getModifiers(), Modifier.PUBLIC | Modifier.STATIC | Modifier.FINAL);
+                due(field + " public static final", field.getModifiers(),
+                    Modifier.PUBLIC | Modifier.STATIC | Modifier.FINAL);
                 seen.add(field.getName() + " " + field.getInt(null));
             }
         }
